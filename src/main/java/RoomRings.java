@@ -858,10 +858,9 @@ public final class RoomRings {
 
         /** The next letter that is no blank; NONE at the end. */
         private int peek() {
-            for (; pos < length; pos++) {
-                int letter = at(letters, pos);
-                if (letter != ' ') {
-                    return letter;
+            for (; pos >= 0 && pos < length && pos < letters.length; pos++) {
+                if (letters[pos] != ' ') {
+                    return letters[pos];
                 }
             }
             return NONE;
