@@ -14,7 +14,7 @@ public final class AskedTests {
     }
 
     private static void otherwise() {
-        RoomRings x = Checks.house(SIX);
+        Run x = Checks.house(SIX);
         String before = Checks.all(x);
         Checks.due("otherwise(0, 4): the empty one, he is first", x.otherwise(0, 4), 4);
         Checks.due("otherwise(0, 1)", x.otherwise(0, 1), 1);
@@ -29,7 +29,7 @@ public final class AskedTests {
         Checks.due("otherwise(-1, 0)", x.otherwise(-1, 0), Checks.UNKNOWN);
         Checks.due("otherwise(0, 5)", x.otherwise(0, 5), Checks.UNKNOWN);
         Checks.due("otherwise(0, -1)", x.otherwise(0, -1), Checks.UNKNOWN);
-        Checks.due("new: otherwise(0, 0)", new RoomRings().otherwise(0, 0), Checks.UNKNOWN);
+        Checks.due("new: otherwise(0, 0)", new Run().otherwise(0, 0), Checks.UNKNOWN);
         x = Checks.house("r3;t0,1;t1,0;t2;");
         Checks.due("he keeps his own", x.otherwise(2, 0), 2);
         x = Checks.house("r2;n0;n1;");
@@ -39,7 +39,7 @@ public final class AskedTests {
     }
 
     private static void odds() {
-        RoomRings x = Checks.house("r2;n0;n0;n0;n1,0;");
+        Run x = Checks.house("r2;n0;n0;n0;n1,0;");
         x.lot(2, 0);
         String before = Checks.all(x);
         Checks.due("odds(0, 0)", x.odds(0, 0), 8);
@@ -53,7 +53,7 @@ public final class AskedTests {
         Checks.due("odds(-1, 0)", x.odds(-1, 0), Checks.UNKNOWN);
         Checks.due("odds(0, 2)", x.odds(0, 2), Checks.UNKNOWN);
         Checks.due("odds(0, -2)", x.odds(0, -2), Checks.UNKNOWN);
-        Checks.due("new: odds(0, NONE)", new RoomRings().odds(0, -1), Checks.UNKNOWN);
+        Checks.due("new: odds(0, NONE)", new Run().odds(0, -1), Checks.UNKNOWN);
         x = Checks.house("r1;n0;");
         Checks.due("one person: odds(0, 0)", x.odds(0, 0), 1);
         Checks.due("one person: odds(0, NONE)", x.odds(0, -1), 0);
@@ -93,7 +93,7 @@ public final class AskedTests {
     }
 
     private static void oddsSum() {
-        RoomRings x = Checks.house("r4;t0,1,2;n1,0,3;n2,1;t3,2;n0,3;n1,2,3;");
+        Run x = Checks.house("r4;t0,1,2;n1,0,3;n2,1;t3,2;n0,3;n1,2,3;");
         for (int p = 0; p < 6; p++) {
             int sum = 0;
             for (int r = -1; r < 4; r++) {
@@ -104,7 +104,7 @@ public final class AskedTests {
     }
 
     private static void quiet() {
-        RoomRings x = new RoomRings();
+        Run x = new Run();
         Checks.due("quiet(0, 0)", x.quiet(0, 0), 1000000000);
         Checks.due("quiet(0, 50)", x.quiet(0, 50), 1000000000);
         Checks.due("quiet(1, 0)", x.quiet(1, 0), 0);

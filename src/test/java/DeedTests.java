@@ -23,7 +23,7 @@ public final class DeedTests {
     }
 
     private static void like() {
-        RoomRings x = Checks.house("r8;t0;n1;");
+        Run x = Checks.house("r8;t0;n1;");
         Checks.due("like(0, 3, 7): behind the last", x.like(0, 3, 7), 1);
         Checks.same("likes", Checks.likes(x, 0), "3");
         Checks.due("like(0, 4, 0)", x.like(0, 4, 0), 2);
@@ -54,7 +54,7 @@ public final class DeedTests {
     }
 
     private static void likeRefused() {
-        RoomRings x = Checks.house("r3;t0,1;n1;");
+        Run x = Checks.house("r3;t0,1;n1;");
         String before = Checks.all(x);
         Checks.due("like(2, 0, 0)", x.like(2, 0, 0), Checks.UNKNOWN);
         Checks.due("like(-1, 0, 0)", x.like(-1, 0, 0), Checks.UNKNOWN);
@@ -68,7 +68,7 @@ public final class DeedTests {
     }
 
     private static void strike() {
-        RoomRings x = Checks.house("r4;t0,1,2,3;n1;");
+        Run x = Checks.house("r4;t0,1,2,3;n1;");
         Checks.due("strike(0, 2)", x.strike(0, 2), 2);
         Checks.same("likes", Checks.likes(x, 0), "13");
         Checks.due("strike(0, 3)", x.strike(0, 3), 1);
@@ -88,31 +88,19 @@ public final class DeedTests {
         Checks.due("told(11)", x.told(11), 4);
     }
 
-    private static String order(RoomRings x) {
-        StringBuilder s = new StringBuilder();
-        for (int place = 0; place < x.told(1); place++) {
-            for (int p = 0; p < x.told(1); p++) {
-                if (x.person(p, 2) == place) {
-                    s.append(p);
-                }
-            }
-        }
-        return s.toString();
-    }
-
     private static void lot() {
-        RoomRings x = Checks.house("r1;n0;n0;n0;n0;n0;n0;");
-        Checks.same("lots", order(x), "012345");
+        Run x = Checks.house("r1;n0;n0;n0;n0;n0;n0;");
+        Checks.same("lots", Checks.lots(x), "012345");
         Checks.due("lot(4, 1)", x.lot(4, 1), 4);
-        Checks.same("lots", order(x), "041235");
+        Checks.same("lots", Checks.lots(x), "041235");
         Checks.due("lot(0, 5)", x.lot(0, 5), 0);
-        Checks.same("lots", order(x), "412350");
+        Checks.same("lots", Checks.lots(x), "412350");
         Checks.due("lot(2, 2): as it was", x.lot(2, 2), 2);
-        Checks.same("lots", order(x), "412350");
+        Checks.same("lots", Checks.lots(x), "412350");
         Checks.due("lot(0, 0)", x.lot(0, 0), 5);
-        Checks.same("lots", order(x), "041235");
+        Checks.same("lots", Checks.lots(x), "041235");
         Checks.due("lot(1, 4)", x.lot(1, 4), 2);
-        Checks.same("lots", order(x), "042315");
+        Checks.same("lots", Checks.lots(x), "042315");
         Checks.due("the first gets it", x.room(0, 1), 0);
         x.lot(5, 0);
         Checks.due("the first gets it", x.room(0, 1), 5);
@@ -127,7 +115,7 @@ public final class DeedTests {
     }
 
     private static void refuse() {
-        RoomRings x = Checks.house(SIX);
+        Run x = Checks.house(SIX);
         Checks.due("refuse(0)", x.refuse(0), 2);
         Checks.same("likes", Checks.likes(x, 0), "2");
         Checks.due("refuse(0) again", x.refuse(0), 0);
@@ -147,7 +135,7 @@ public final class DeedTests {
     }
 
     private static void moved() {
-        RoomRings x = Checks.house(SIX);
+        Run x = Checks.house(SIX);
         Checks.due("moved(): three swap, two come in", x.moved(), 5);
         Checks.same("seats", Checks.section2(x), "1@0:12 2@1:20 0@2:0 3@3:31 4@4:43 -1@5:340 ");
         Checks.due("moved() again", x.moved(), 0);
@@ -162,14 +150,14 @@ public final class DeedTests {
         x.leave(0);
         Checks.due("moved(): the newcomer", x.moved(), 1);
         Checks.due("he sits", x.person(1, 0), 0);
-        Checks.due("moved() without persons", new RoomRings().moved(), Checks.NOT);
+        Checks.due("moved() without persons", new Run().moved(), Checks.NOT);
         x = Checks.house("r3;");
         Checks.due("moved() with rooms alone", x.moved(), Checks.NOT);
         Checks.due("told(11)", x.told(11), 0);
     }
 
     private static void leave() {
-        RoomRings x = Checks.house("r3;t2,1;t0;n2;");
+        Run x = Checks.house("r3;t2,1;t0;n2;");
         Checks.due("leave(0)", x.leave(0), 2);
         Checks.due("person(0, 0)", x.person(0, 0), -1);
         Checks.due("room(2, 0)", x.room(2, 0), -1);
@@ -185,7 +173,7 @@ public final class DeedTests {
     }
 
     private static void driftRefused() {
-        RoomRings x = new RoomRings();
+        Run x = new Run();
         Checks.due("no hostel: drift(1)", x.drift(1), Checks.NOT);
         Checks.due("no hostel: drift(0): OUTSIDE first", x.drift(0), Checks.OUTSIDE);
         Checks.due("no hostel: drift(21): OUTSIDE first", x.drift(21), Checks.OUTSIDE);
@@ -215,7 +203,7 @@ public final class DeedTests {
     }
 
     /** What drift(1) does is done by the plain calls to the other object: the kind that was drawn. */
-    private static int plain(RoomRings y) {
+    private static int plain(Run y) {
         int kind = draw(4);
         int p = draw(y.told(1));
         if (kind == 0) {
@@ -234,27 +222,27 @@ public final class DeedTests {
     private static void driftIsDeedByDeed() {
         int[] seeds = {0, 1, 137, 65535, 2147483647, 1234567890};
         for (int seed : seeds) {
-            RoomRings x = Checks.house(SIX);
-            RoomRings y = Checks.house(SIX);
-            x.seed(seed);
-            state = seed;
             for (int n = 1; n <= 20; n++) {
+                Run x = Checks.house(SIX);
+                Run y = Checks.house(SIX);
+                x.seed(seed);
+                state = seed;
                 for (int i = 0; i < n; i++) {
                     plain(y);
                 }
                 Checks.due("drift(" + n + ")", x.drift(n), Integer.bitCount(y.told(6)));
                 Checks.same("after drift(" + n + ")", Checks.section2(x), Checks.section2(y));
+                Checks.due("the seed then", x.seed(0), state);
+                Checks.due("told(11) then", x.told(11), n);
             }
-            Checks.due("the seed then", x.seed(0), state);
-            Checks.due("told(11) then", x.told(11), 20);
         }
     }
 
     private static void driftKinds() {
         int kinds = 0;
         for (int seed = 0; seed < 400; seed++) {
-            RoomRings x = Checks.house("r7;t0,1,2;t1,2,0;n3,1;");
-            RoomRings y = Checks.house("r7;t0,1,2;t1,2,0;n3,1;");
+            Run x = Checks.house("r7;t0,1,2;t1,2,0;n3,1;");
+            Run y = Checks.house("r7;t0,1,2;t1,2,0;n3,1;");
             String before = Checks.section2(x);
             x.seed(seed * 65537 * 3);
             state = seed * 65537L * 3;
@@ -271,7 +259,7 @@ public final class DeedTests {
     }
 
     private static void undo() {
-        RoomRings x = Checks.house(SIX);
+        Run x = Checks.house(SIX);
         Checks.due("undo(1) of nothing", x.undo(1), Checks.NOT);
         Checks.due("undo(0)", x.undo(0), Checks.OUTSIDE);
         Checks.due("undo(-1)", x.undo(-1), Checks.OUTSIDE);
@@ -308,7 +296,7 @@ public final class DeedTests {
 
     private static void undoOfEachDeed() {
         for (int kind = 0; kind < 7; kind++) {
-            RoomRings x = Checks.house(SIX);
+            Run x = Checks.house(SIX);
             String before = Checks.all(x);
             int answer = kind == 0 ? x.like(2, 4, 0) : kind == 1 ? x.strike(5, 4) : kind == 2 ? x.lot(5, 2)
                 : kind == 3 ? x.refuse(1) : kind == 4 ? x.moved() : kind == 5 ? x.leave(2) : x.drift(3);
@@ -319,24 +307,26 @@ public final class DeedTests {
         }
     }
 
-    private static void undoTwenty() {
-        RoomRings x = Checks.house("r8;n0;n0;n0;");
-        String[] states = new String[60];
-        for (int i = 0; i < 55; i++) {
-            states[i] = Checks.section2(x);
-            Checks.due("told(11) after " + i, x.told(11), Math.min(i, 20));
+    private static Run likedOften(int times) {
+        Run x = Checks.house("r8;n0;n0;n0;");
+        for (int i = 0; i < times; i++) {
             x.like(i % 3, i % 8, i % 5);
         }
+        return x;
+    }
+
+    private static void undoTwenty() {
+        Run x = likedOften(55);
         Checks.due("told(11)", x.told(11), 20);
         Checks.due("undo(21)", x.undo(21), Checks.OUTSIDE);
         Checks.due("undo(7)", x.undo(7), 13);
-        Checks.same("seven undone", Checks.section2(x), states[48]);
+        Checks.same("seven undone", Checks.section2(x), Checks.section2(likedOften(48)));
         Checks.due("undo(14)", x.undo(14), Checks.NOT);
         Checks.due("undo(13)", x.undo(13), 0);
-        Checks.same("twenty undone", Checks.section2(x), states[35]);
+        Checks.same("twenty undone", Checks.section2(x), Checks.section2(likedOften(35)));
         x.drift(20);
         Checks.due("told(11)", x.told(11), 20);
         Checks.due("undo(20)", x.undo(20), 0);
-        Checks.same("twenty more undone", Checks.section2(x), states[35]);
+        Checks.same("twenty more undone", Checks.section2(x), Checks.section2(likedOften(35)));
     }
 }

@@ -33,7 +33,7 @@ public final class HostelTests {
     }
 
     private static void newObject() {
-        RoomRings x = new RoomRings();
+        Run x = new Run();
         int[] due = {0, 0, 0, 0, 0, 0, 0, -1, 0, 0, 0, 0};
         for (int what = 0; what < due.length; what++) {
             Checks.due("new: told(" + what + ")", x.told(what), due[what]);
@@ -50,7 +50,7 @@ public final class HostelTests {
     }
 
     private static void feed() {
-        RoomRings x = new RoomRings();
+        Run x = new Run();
         Checks.due("feed(0)", x.feed(0), 1);
         Checks.due("feed(255)", x.feed(255), 2);
         Checks.due("feed(-1)", x.feed(-1), Checks.OUTSIDE);
@@ -72,7 +72,7 @@ public final class HostelTests {
     }
 
     private static void reads(String text, int persons, int rooms, String due) {
-        RoomRings x = new RoomRings();
+        Run x = new Run();
         Checks.feed(x, text);
         Checks.due("'" + text + "': hostel()", x.hostel(), persons);
         Checks.due("'" + text + "': fault()", x.fault(), -1);
@@ -96,7 +96,7 @@ public final class HostelTests {
 
     private static void hostelForgets() {
         for (String text : new String[] {"", "r2;n1;", SIX}) {
-            RoomRings x = Checks.house(SIX);
+            Run x = Checks.house(SIX);
             x.seed(77);
             x.see(1, true);
             x.write(0, 1);
@@ -114,7 +114,7 @@ public final class HostelTests {
             Checks.due("goBack(1) after hostel()", x.goBack(1), Checks.NOT);
             Checks.due("seed after hostel()", x.seed(0), 77);
         }
-        RoomRings x = Checks.house(SIX);
+        Run x = Checks.house(SIX);
         x.lot(5, 0);
         Checks.feed(x, SIX);
         Checks.due("hostel() again", x.hostel(), 6);
@@ -125,7 +125,7 @@ public final class HostelTests {
     }
 
     private static void faulty(String text, int number, int where) {
-        RoomRings x = new RoomRings();
+        Run x = new Run();
         Checks.feed(x, text);
         Checks.due("'" + text + "': hostel()", x.hostel(), -10 - number);
         Checks.due("'" + text + "': fault()", x.fault(), where);
@@ -209,7 +209,7 @@ public final class HostelTests {
     }
 
     private static void faultLeavesAllAsItWas() {
-        RoomRings x = Checks.house(SIX);
+        Run x = Checks.house(SIX);
         x.seed(5);
         x.keep(1);
         x.lot(3, 0);
@@ -231,7 +231,7 @@ public final class HostelTests {
     }
 
     private static void told() {
-        RoomRings x = Checks.house(SIX);
+        Run x = Checks.house(SIX);
         x.feed('r');
         int[] due = {5, 6, 1, 4, 32, 0, 24, 3, 3, 0, 0, 0};
         for (int what = 0; what < due.length; what++) {
@@ -252,7 +252,7 @@ public final class HostelTests {
     }
 
     private static void toldEdges() {
-        RoomRings x = Checks.house("r8;");
+        Run x = Checks.house("r8;");
         Checks.due("no persons: told(3)", x.told(3), 0);
         Checks.due("no persons: told(4)", x.told(4), 0);
         Checks.due("no persons: told(5)", x.told(5), 255);
@@ -277,7 +277,7 @@ public final class HostelTests {
     }
 
     private static void person() {
-        RoomRings x = Checks.house(SIX);
+        Run x = Checks.house(SIX);
         int[][] due = {
             {0, 2, 0, 1, 0, 7, 0, 0}, {1, 2, 1, 2, 0, 7, 1, 0}, {2, 1, 2, 0, 0, 7, 2, 0},
             {-1, 2, 3, 3, 1, 8, 3, 0}, {-1, 2, 4, 4, 2, 16, 4, 0}, {-1, 3, 5, -1, 3, 32, -1, 3}};
@@ -294,7 +294,7 @@ public final class HostelTests {
         Checks.due("person(-1, -1): UNKNOWN first", x.person(-1, -1), Checks.UNKNOWN);
     }
 
-    private static void outcome(RoomRings x, String what, int p, int gets, int round, int ring) {
+    private static void outcome(Run x, String what, int p, int gets, int round, int ring) {
         Checks.due(what + ": person(" + p + ", 3)", x.person(p, 3), gets);
         Checks.due(what + ": person(" + p + ", 4)", x.person(p, 4), round);
         Checks.due(what + ": person(" + p + ", 5)", x.person(p, 5), ring);
@@ -302,7 +302,7 @@ public final class HostelTests {
 
     private static void rings() {
         // The empty room points at the first by lot, and he goes through it alone.
-        RoomRings x = Checks.house("r2;t0,1;n0;");
+        Run x = Checks.house("r2;t0,1;n0;");
         outcome(x, "first sits", 0, 1, 0, 1);
         outcome(x, "first sits", 1, 0, 1, 2);
         // The newcomer is first: the empty room brings him into the sitter's ring.
@@ -342,7 +342,7 @@ public final class HostelTests {
 
     private static void byLot() {
         // The room of one who did not choose yet is not to be had; that of one who chose is.
-        RoomRings x = Checks.house("r2;t0,1;n0;");
+        Run x = Checks.house("r2;t0,1;n0;");
         Checks.due("by lot: person(0, 6)", x.person(0, 6), 1);
         Checks.due("by lot: person(1, 6)", x.person(1, 6), 0);
         x.lot(1, 0);
@@ -355,7 +355,7 @@ public final class HostelTests {
     }
 
     private static void group(String text, int least, int count) {
-        RoomRings x = Checks.house(text);
+        Run x = Checks.house(text);
         Checks.due("'" + text + "': told(7)", x.told(7), least);
         Checks.due("'" + text + "': told(8)", x.told(8), count);
     }
@@ -376,7 +376,7 @@ public final class HostelTests {
         group("r6;t0,1;t1,2;t2,3;t3,4;t4,5;t5;", -1, 0);
         group("r6;t0,1;t1,2;t2,3;t3,4;t4,5;t5,0;", 63, 1);
         // As they sit now.
-        RoomRings x = Checks.house("r2;t0,1;t1,0;");
+        Run x = Checks.house("r2;t0,1;t1,0;");
         x.moved();
         Checks.due("moved: told(7)", x.told(7), -1);
         x = Checks.house("r2;t0,1;t1,0;");
@@ -385,7 +385,7 @@ public final class HostelTests {
     }
 
     private static void likes() {
-        RoomRings x = Checks.house("r8;n7,6,5,4,3,2,1,0;t3;");
+        Run x = Checks.house("r8;n7,6,5,4,3,2,1,0;t3;");
         for (int k = 0; k < 8; k++) {
             Checks.due("likes(0, " + k + ")", x.likes(0, k), 7 - k);
         }
@@ -401,7 +401,7 @@ public final class HostelTests {
     }
 
     private static void room() {
-        RoomRings x = Checks.house("r4;t2,1;t1;n3,2;");
+        Run x = Checks.house("r4;t2,1;t1;n3,2;");
         int[][] due = {{-1, -1}, {1, 1}, {0, 0}, {-1, 2}};
         for (int r = 0; r < due.length; r++) {
             Checks.due("room(" + r + ", 0)", x.room(r, 0), due[r][0]);

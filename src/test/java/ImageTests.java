@@ -15,7 +15,7 @@ public final class ImageTests {
     }
 
     private static void seed() {
-        RoomRings x = new RoomRings();
+        Run x = new Run();
         Checks.due("seed(2147483647)", x.seed(2147483647), 0);
         Checks.due("seed(-1)", x.seed(-1), Checks.OUTSIDE);
         Checks.due("seed(least)", x.seed(Integer.MIN_VALUE), Checks.OUTSIDE);
@@ -33,7 +33,7 @@ public final class ImageTests {
     }
 
     private static void keepAndGoBack() {
-        RoomRings x = Checks.house(SIX);
+        Run x = Checks.house(SIX);
         x.seed(11);
         String first = Checks.section2(x);
         Checks.due("keep(0)", x.keep(0), 1);
@@ -74,7 +74,7 @@ public final class ImageTests {
     }
 
     private static void refused() {
-        RoomRings x = Checks.house(SIX);
+        Run x = Checks.house(SIX);
         x.lot(0, 3);
         String before = Checks.all(x);
         Checks.due("keep(-1)", x.keep(-1), Checks.UNKNOWN);
@@ -89,7 +89,7 @@ public final class ImageTests {
     }
 
     private static void whatIsKept() {
-        RoomRings x = Checks.house(SIX);
+        Run x = Checks.house(SIX);
         x.see(1, true);
         x.write(0, 1);
         x.keep(0);
@@ -104,7 +104,7 @@ public final class ImageTests {
     }
 
     private static void withoutHostel() {
-        RoomRings x = new RoomRings();
+        Run x = new Run();
         x.seed(8);
         Checks.due("no hostel: keep(1)", x.keep(1), 1);
         x.seed(9);

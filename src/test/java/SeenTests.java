@@ -17,14 +17,14 @@ public final class SeenTests {
     }
 
     private static void see() {
-        RoomRings x = Checks.house("r3;n0;");
+        Run x = Checks.house("r3;n0;");
         Checks.due("see(0, true)", x.see(0, true), 1);
         Checks.due("see(2, false)", x.see(2, false), 2);
         Checks.due("see(NONE, false)", x.see(-1, false), 3);
         Checks.due("see(3, true)", x.see(3, true), Checks.UNKNOWN);
         Checks.due("see(-2, true)", x.see(-2, true), Checks.UNKNOWN);
         Checks.due("told(9)", x.told(9), 3);
-        x = new RoomRings();
+        x = new Run();
         Checks.due("new: see(0, true)", x.see(0, true), Checks.UNKNOWN);
         Checks.due("new: see(NONE, true)", x.see(-1, true), 1);
         Checks.due("new: couldBe()", x.couldBe(), 0);
@@ -32,7 +32,7 @@ public final class SeenTests {
     }
 
     private static void seeFull() {
-        RoomRings x = Checks.house("r3;n0;n1;");
+        Run x = Checks.house("r3;n0;n1;");
         for (int i = 1; i <= 6; i++) {
             Checks.due("see number " + i, x.see(i < 6 ? 2 : 0, i == 6), i);
         }
@@ -45,7 +45,7 @@ public final class SeenTests {
     }
 
     private static void couldBe() {
-        RoomRings x = Checks.house(SIX);
+        Run x = Checks.house(SIX);
         Checks.due("nothing seen", x.couldBe(), 63);
         x.see(3, false);
         Checks.due("not room 3", x.couldBe(), 55);
@@ -69,7 +69,7 @@ public final class SeenTests {
     }
 
     private static void ask() {
-        RoomRings x = Checks.house("r4;n2;n3;n3;");
+        Run x = Checks.house("r4;n2;n3;n3;");
         Checks.due("ask(): the least room that one got", x.ask(), 2);
         x.see(2, false);
         Checks.due("ask(): the next", x.ask(), 3);
@@ -92,7 +92,7 @@ public final class SeenTests {
     }
 
     private static void write() {
-        RoomRings x = Checks.house("r3;n0;n1;");
+        Run x = Checks.house("r3;n0;n1;");
         Checks.due("write(0, 0)", x.write(0, 0), 1);
         Checks.due("write(1, NONE)", x.write(1, -1), 2);
         Checks.due("write(1, 2)", x.write(1, 2), 3);
@@ -107,11 +107,11 @@ public final class SeenTests {
         Checks.due("full: write(2, 0): UNKNOWN first", x.write(2, 0), Checks.UNKNOWN);
         Checks.due("full: write(0, 3): UNKNOWN first", x.write(0, 3), Checks.UNKNOWN);
         Checks.due("told(10)", x.told(10), 20);
-        Checks.due("new: write(0, NONE)", new RoomRings().write(0, -1), Checks.UNKNOWN);
+        Checks.due("new: write(0, NONE)", new Run().write(0, -1), Checks.UNKNOWN);
     }
 
     private static void judge() {
-        RoomRings x = Checks.house("r3;n0;n1;n0;");
+        Run x = Checks.house("r3;n0;n1;n0;");
         Checks.due("no book", x.judge(), -1);
         x.write(0, 0);
         x.write(2, -1);
@@ -136,7 +136,7 @@ public final class SeenTests {
     }
 
     private static void tear() {
-        RoomRings x = Checks.house("r3;n0;n1;");
+        Run x = Checks.house("r3;n0;n1;");
         Checks.due("tear() of nothing", x.tear(), 0);
         x.see(0, true);
         x.see(0, true);

@@ -17,7 +17,9 @@ public final class WildCalls {
             Random random = new Random(run);
             RoomRings x = new RoomRings();
             if (random.nextInt(4) > 0) {
-                Checks.feed(x, "r" + (1 + random.nextInt(8)) + ";t0,0;n0;n0;n0;n0;n0;");
+                for (char letter : ("r" + (1 + random.nextInt(8)) + ";t0,0;n0;n0;n0;n0;n0;").toCharArray()) {
+                    x.feed(letter);
+                }
                 x.hostel();
             }
             int call = 0;

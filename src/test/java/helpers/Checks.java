@@ -24,23 +24,17 @@ final class Checks {
         due(what, holds ? 1 : 0, 1);
     }
 
-    static void feed(RoomRings x, String text) {
-        for (int i = 0; i < text.length(); i++) {
-            x.feed(text.charAt(i));
-        }
+    static void feed(Run x, String text) {
+        x.tell(text);
     }
 
     /** A new object whose text was read without a fault. */
-    static RoomRings house(String text) {
-        RoomRings x = new RoomRings();
-        feed(x, text);
-        int persons = x.hostel();
-        sound("'" + text + "' is read", persons >= 0);
-        return x;
+    static Run house(String text) {
+        return new Run(text);
     }
 
     /** All that can be asked of an object without changing it, as one text. */
-    static String all(RoomRings x) {
+    static String all(Run x) {
         StringBuilder s = new StringBuilder();
         for (int what = 0; what <= 11; what++) {
             s.append(x.told(what)).append(' ');
@@ -50,21 +44,36 @@ final class Checks {
         return s.toString();
     }
 
-    /** Who sits where, who likes which and the lots. */
-    static String section2(RoomRings x) {
+    /** Who sits where, at which place by lot, who likes which: "seat@place:likes ", person by person. */
+    static String section2(Run x) {
         StringBuilder s = new StringBuilder();
-        for (int p = 0; p < x.told(1); p++) {
+        int persons = x.told(1);
+        for (int p = 0; p < persons; p++) {
             s.append(x.person(p, 0)).append('@').append(x.person(p, 2)).append(':').append(likes(x, p)).append(' ');
         }
         return s.toString();
     }
 
-    static String likes(RoomRings x, int p) {
+    static String likes(Run x, int p) {
         StringBuilder s = new StringBuilder();
-        for (int k = 0; k < x.person(p, 1); k++) {
+        int n = x.person(p, 1);
+        for (int k = 0; k < n; k++) {
             s.append(x.likes(p, k));
         }
         return s.toString();
+    }
+
+    /** Persons by their lots, the first first. */
+    static String lots(Run x) {
+        int persons = x.told(1);
+        char[] order = new char[persons];
+        for (int p = 0; p < persons; p++) {
+            int place = x.person(p, 2);
+            if (place >= 0 && place < persons) {
+                order[place] = (char) ('0' + p);
+            }
+        }
+        return new String(order);
     }
 
     static void same(String what, String got, String want) {
