@@ -154,6 +154,31 @@ final class HostelEdges extends Edge {
         same("house", section2(x), "-1@0:0 ");
         due(x.person(1, 0), UNKNOWN);
         due(x.room(1, 0), UNKNOWN);
+        for (int n = 0; n <= 5; n++) {
+            nothingOfTheGreater("r8;" + times("n7,0;", n));
+        }
+        nothingOfTheGreater("");
+        nothingOfTheGreater("r1;t0;");
+        nothingOfTheGreater("r8;t0,7;t7,6;");
+        nothingOfTheGreater("r8;t3;t2,3;t1,2;n0;");
+    }
+
+    /** A HOSTEL that comes behind one of six PERSONS is as one that is the first. */
+    private static void nothingOfTheGreater(String text) {
+        Run x = new Run("r8;t0,1;t1,2;t2,3;t3,4;t4,5;t5,6;");
+        gets(x);
+        x.told(8);
+        x.odds(5, 6);
+        x.tell(text).hostel();
+        Run y = new Run(text);
+        for (int r = 0; r < 8; r++) {
+            due(x.room(r, 0), y.room(r, 0));
+            due(x.room(r, 1), y.room(r, 1));
+        }
+        due(x.couldBe(), y.couldBe());
+        due(x.ask(), y.ask());
+        due(x.moved(), y.moved());
+        same("all of '" + text + "'", everything(x), everything(y));
     }
 
     private static void hostelForgets() {
