@@ -119,7 +119,7 @@ final class AskedEdges extends Edge {
         same("by lot", asked(new Run("r2;t0,0,1;n0,1;n0,1;"), 6), "0 1 -");
         // What he LIKES behind where he sits he would not have.
         same("by lot", asked(new Run("r3;t1;t0,1,0,2;"), 6), "1 0");
-        // A ring is nothing to those who choose by lot: only the last one goes.
+        // A ring is nothing to those who choose by lot: each wants a room whose sitter did not choose yet, or stayed.
         same("by lot", asked(new Run("r6;t0,1;t1,2;t2,3;t3,4;t4,5;t5,0;"), 6), "0 1 2 3 4 5");
         x = new Run("r1;t0;");
         x.leave(0);

@@ -55,6 +55,12 @@ final class Document {
         return SECTIONS.size();
     }
 
+    /** The words of a section, in one line. */
+    static String words(String section) {
+        read();
+        return SECTIONS.getOrDefault(section, "");
+    }
+
     private static void read() {
         if (!SECTIONS.isEmpty()) {
             return;
